@@ -1,0 +1,65 @@
+/** Houses made for tests, and how a test sees one whole. */
+final class Houses {
+    private Houses() {
+    }
+
+    /** A with 3, 4, 5 and a well B, both in room a, which does -1, -2, -5. */
+    static FurnitureCure withTwo() {
+        FurnitureCure x = new FurnitureCure();
+        x.piece(0, 3, 4, 5);
+        x.piece(1, 0, 0, 0);
+        x.room(0, 0, -1);
+        x.room(0, 1, -2);
+        x.room(0, 2, -5);
+        return x;
+    }
+
+    static void write(FurnitureCure x, String cures) {
+        x.wipe();
+        for (int i = 0; i < cures.length(); i++) {
+            x.say(cures.charAt(i));
+        }
+    }
+
+    /** Writes cures and does them. */
+    static int act(FurnitureCure x, String cures) {
+        write(x, cures);
+        return x.done();
+    }
+
+    static String repeat(String text, int times) {
+        StringBuilder all = new StringBuilder();
+        for (int i = 0; i < times; i++) {
+            all.append(text);
+        }
+        return all.toString();
+    }
+
+    /** All that told() and does() show, as one text; some ninety calls. */
+    static String seenWhole(FurnitureCure x) {
+        StringBuilder all = new StringBuilder();
+        for (int what = 0; what <= 4; what++) {
+            all.append(x.told(what)).append(' ');
+        }
+        for (int piece = 0; piece < 6; piece++) {
+            for (int what = 0; what <= 3; what++) {
+                all.append(x.told(10 * (1 + piece) + what)).append(' ');
+            }
+        }
+        for (int room = 0; room < 4; room++) {
+            for (int ill = 0; ill < 3; ill++) {
+                all.append(x.told(100 * (1 + room) + ill)).append(' ');
+            }
+        }
+        for (int pair = 0; pair < 36; pair++) {
+            all.append(x.told(500 + pair)).append(' ');
+        }
+        for (int guest = 0; guest < 6; guest++) {
+            all.append(x.told(600 + guest)).append(' ');
+        }
+        for (int i = -1; i < 11; i++) {
+            all.append(x.does(i)).append(' ');
+        }
+        return all.append(x.fault()).toString();
+    }
+}
