@@ -191,6 +191,12 @@ public final class DaysTest {
         draughtsDue(x, new int[] {3, 3, 2, 17}, 64, 125);
         draughtsDue(x, new int[] {3, 4, 0, 19}, 0, 1);
         draughtsDue(x, new int[] {3, 4, 0, 20}, 1, 1);
+        x.room(2, 2, 0);
+        x.piece(3, 0, 0, 20);
+        draughtsDue(x, new int[] {3, 3, 5, 19}, 0, 1);
+        draughtsDue(x, new int[] {3, 3, 5, 20}, 1, 1);
+        x.room(0, 2, -1);
+        draughtsDue(x, new int[] {3, 2, 5, 19}, 3, 4);
         x.room(2, 2, -1);
         x.piece(3, 0, 0, 0);
         Houses.act(x, "Dc");
@@ -231,6 +237,14 @@ public final class DaysTest {
         x.piece(0, 0, 0, 0);
         x.piece(5, 10, 0, 0);
         CHECK.due("week(0, 5, 0) where F can not be walked", 5, x.week(0, 5, 0));
+        // Seed 3 draws . . . . Ea Ac Dc . . . where E and D are not there.
+        x.piece(0, 0, 0, 0);
+        x.room(2, 2, 1);
+        x.leave(5);
+        CHECK.due("week(3, 7, 0) where A is walked to c", 0, x.week(3, 7, 0));
+        CHECK.due("week(3, 10, 0) where A gets damp in c", 3, x.week(3, 10, 0));
+        CHECK.due("week(3, 10, 1)", 1, x.week(3, 10, 1));
+        CHECK.due("week(3, 10, 2)", 7, x.week(3, 10, 2));
         int[][] beside = {{-1, 1, 0}, {10000, 1, 0}, {0, 0, 0}, {0, 100, 0}, {0, 1, -1}, {0, 1, 3}};
         for (int[] b : beside) {
             CHECK.due("week(" + b[0] + ", " + b[1] + ", " + b[2] + ")", -2, x.week(b[0], b[1], b[2]));

@@ -41,7 +41,11 @@ public final class RoomsTest {
         CHECK.due("alone(0, 2)", -2, x.alone(0, 2));
         CHECK.due("alone(0, -1)", -2, x.alone(0, -1));
         x.piece(0, 0, 20, 0);
+        CHECK.due("alone(0, 0) at its longest", 1, x.alone(0, 0));
         CHECK.due("alone(0, 1) at its longest", 20, x.alone(0, 1));
+        x.room(0, 1, -4);
+        CHECK.due("alone(0, 0) where the first room helps most", 0, x.alone(0, 0));
+        CHECK.due("alone(0, 1) where the first room helps most", 5, x.alone(0, 1));
     }
 
     private static void allDue(FurnitureCure x, String when, int hours, int rooms) {
@@ -192,6 +196,9 @@ public final class RoomsTest {
         x.guest(4, 63);
         x.guest(5, 63);
         seated(x, "where six sit", 6, 2, 0, 1, 3, 4, 5);
+        x.guest(1, 0);
+        seated(x, "where one likes none", 5, 0, -6, 1, 2, 3, 4);
+        x.guest(1, 1);
         x.guest(4, 0);
         x.guest(5, 2);
         x.guest(2, 6);
