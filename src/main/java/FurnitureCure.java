@@ -35,6 +35,7 @@ public final class FurnitureCure {
 
     private static final int TENTHS = 10;
     private static final int MOST_DAYS = 9;
+    private static final int MOST_DRAUGHTY_HOURS = 9;
     private static final int MOST_GRADE = 9;
     private static final int MOST_COST = 9;
     private static final int PAID_FOR_WELL = 10;
@@ -363,7 +364,7 @@ public final class FurnitureCure {
         if (!house.isThere(piece)) {
             return LOST + UNKNOWN;
         }
-        if (!isBetween(m, 0, MOST_DAYS) || !isBetween(t, 0, TENTHS) || !isBetween(v, 0, MOST_ILL)
+        if (!isBetween(m, 0, MOST_DRAUGHTY_HOURS) || !isBetween(t, 0, TENTHS) || !isBetween(v, 0, MOST_ILL)
                 || !isAmong(part, 2)) {
             return LOST + OUTSIDE;
         }
@@ -372,7 +373,7 @@ public final class FurnitureCure {
     }
 
     public int week(int seed, int m, int what) {
-        if (!isBetween(seed, 0, MOST_SEED) || !isBetween(m, 1, MOST_DRAWS) || !isAmong(what, ILLS)) {
+        if (!isBetween(seed, 0, MOST_SEED) || !isBetween(m, 1, MOST_DRAWS) || !isAmong(what, 3)) {
             return OUTSIDE;
         }
         trial.drift(house, seed, m);
