@@ -14,6 +14,49 @@ final class Houses {
         return x;
     }
 
+    /** A, C and F are there, all else holds something too, an image is kept, and cures that can be wait on the pad. */
+    static FurnitureCure busy() {
+        FurnitureCure x = withTwo();
+        x.leave(1);
+        x.piece(2, 0, 0, 0);
+        x.piece(5, 20, 19, 18);
+        x.room(3, 1, 2);
+        x.bad(2, 0, 1);
+        x.bad(0, 2, -3);
+        x.guest(0, 33);
+        x.guest(5, 4);
+        x.seen(3, 2, 0);
+        act(x, "Fd.A!");
+        x.image(0);
+        x.bad(5, 2, 2);
+        x.guest(3, 63);
+        act(x, "Cb");
+        write(x, "C!.Fa");
+        return x;
+    }
+
+    static FurnitureCure withAll(int creaks, int nerves, int damp) {
+        FurnitureCure x = new FurnitureCure();
+        for (int piece = 0; piece < 6; piece++) {
+            x.piece(piece, creaks, nerves, damp);
+        }
+        return x;
+    }
+
+    /** One piece by itself in room a. */
+    static FurnitureCure withOne(int piece, int creaks, int nerves, int damp) {
+        FurnitureCure x = new FurnitureCure();
+        x.piece(piece, creaks, nerves, damp);
+        return x;
+    }
+
+    /** Lets hours pass, as many as are told; the pad is empty then. */
+    static void pass(FurnitureCure x, int hours) {
+        for (int left = hours; left > 0; left -= 60) {
+            act(x, repeat(".", Math.min(left, 60)));
+        }
+    }
+
     static void write(FurnitureCure x, String cures) {
         x.wipe();
         for (int i = 0; i < cures.length(); i++) {
@@ -61,5 +104,20 @@ final class Houses {
             all.append(x.does(i)).append(' ');
         }
         return all.append(x.fault()).toString();
+    }
+
+    /** What the pad's cures come to, and both images, behind what seenWhole() shows; some 320 calls. */
+    static String seenThrough(FurnitureCure x) {
+        StringBuilder all = new StringBuilder(seenWhole(x));
+        for (int piece = 0; piece < 6; piece++) {
+            for (int what = 0; what <= 3; what++) {
+                all.append(' ').append(x.behind(piece, what));
+            }
+        }
+        all.append(' ').append(x.judge(0)).append(' ').append(x.judge(1)).append(' ').append(x.wipe());
+        for (int n = 0; n < 2; n++) {
+            all.append(" / ").append(x.restore(n)).append(' ').append(seenWhole(x));
+        }
+        return all.toString();
     }
 }
