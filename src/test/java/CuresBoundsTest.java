@@ -19,6 +19,7 @@ public final class CuresBoundsTest {
         doneRefused();
         hourKeepsIllsWithin();
         hourAddsNervesTogether();
+        hourOfEachTwo();
         hourOfWhoIsSatIn();
         behindPiece();
         behindWhat();
@@ -253,6 +254,22 @@ public final class CuresBoundsTest {
         }
         Houses.act(x, ".");
         illsDue(x, "behind an hour where all have left", new int[] {9, alone, 9});
+    }
+
+    /** An hour: "that one has so much more NERVES": each PIECE by each other one, and no third. */
+    private static void hourOfEachTwo() {
+        for (int piece = 0; piece < 6; piece++) {
+            for (int other = 0; other < 6; other++) {
+                FurnitureCure x = Houses.withAll(9, 9, 9);
+                boolean refused = x.bad(piece, other, 3) == UNKNOWN;
+                CHECK.due("bad for itself", piece == other ? 1 : 0, refused ? 1 : 0);
+                Houses.act(x, ".");
+                for (int each = 0; each < 6; each++) {
+                    CHECK.due("nerves of " + each + " where " + piece + " is bad for " + other,
+                            each == other && piece != other ? 12 : 9, x.told(11 + 10 * each));
+                }
+            }
+        }
     }
 
     /** An hour: "if it was SAT in, 2 CREAKS less behind that (0 at least)". */

@@ -335,6 +335,7 @@ public final class DaysBoundsTest {
         FurnitureCure x = Houses.withOne(3, 20, 20, 20);
         for (int c : new int[] {0, 1, 9998, 9999}) {
             CHECK.due("bill(" + c + ", 3) of one alone", c, x.bill(c, 3));
+            CHECK.due("bill(" + c + ", 3) of one alone that is well", c, Houses.withOne(3, 0, 0, 0).bill(c, 3));
         }
         CHECK.due("bill(10000, 3) of one alone", OUTSIDE, x.bill(10000, 3));
     }

@@ -7,6 +7,7 @@ public final class ImagesBoundsTest {
     public static void main(String[] args) {
         imageOfTwo();
         imageOfNothingAndOfAll();
+        imageOfAllSights();
         imageKeepsNoPad();
         imageOverImage();
         restoreOfTwo();
@@ -54,6 +55,27 @@ public final class ImagesBoundsTest {
             x.seen(20, 9, 20);
         }
         Houses.act(x, "AdBdCdDdEdFd.A!B!C!D!E!F!");
+    }
+
+    /** Promise 30: "It is as it was": of 8 SIGHTS each one, the last one, too. */
+    private static void imageOfAllSights() {
+        for (int odd = 0; odd < 8; odd++) {
+            FurnitureCure x = new FurnitureCure();
+            for (int count = 0; count < 8; count++) {
+                x.seen(count == odd ? 17 : 20, count == odd ? 1 : 2, 20);
+            }
+            x.image(0);
+            x.forget();
+            // Others come between, so that none of the first ones is left where it stood.
+            for (int count = 0; count < 8; count++) {
+                x.seen(10, 9, 0);
+            }
+            CHECK.due("-5 to -2 fit in between", 4, x.does(-1));
+            x.restore(0);
+            CHECK.due("sights", 8, x.told(3));
+            CHECK.due("3, 4 and 5 fit again, by sight " + odd, 3, x.does(-1));
+            CHECK.due("3 is the least, by sight " + odd, 13, x.does(0));
+        }
     }
 
     /** Promise 29: "All but the PAD is kept": an empty pad stays empty, a full one full. */
@@ -126,9 +148,6 @@ public final class ImagesBoundsTest {
         Houses.act(x, "..BbCcDdFbA!F!");
         for (int place = 0; place < 12; place++) {
             x.room(place / 3, place % 3, place % 11 - 5);
-        }
-        for (int piece = 0; piece < 6; piece++) {
-            Houses.act(x, "");
         }
         x.seen(1, 1, 1);
         x.seen(1, 1, 1);

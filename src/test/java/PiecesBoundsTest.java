@@ -12,6 +12,7 @@ public final class PiecesBoundsTest {
         pieceCounts();
         pieceAnew();
         leaveOfSix();
+        leaveOfWhoIsSatIn();
         leaveCounts();
         roomOfFour();
         roomIll();
@@ -135,6 +136,22 @@ public final class PiecesBoundsTest {
         BUSY.taken("leave(n)", (x, n) -> x.leave(n), 0, 2);
         BUSY.taken("leave(n)", (x, n) -> x.leave(n), 5, 2);
         BUSY.taken("leave(n) twice", (x, n) -> x.leave(n) + 100 * x.leave(n), 0, 2 - 100);
+    }
+
+    /** Promises 2 and 3: who goes home, or comes anew, is not SAT in; all others are, as they were. */
+    private static void leaveOfWhoIsSatIn() {
+        for (int piece = 0; piece < 6; piece++) {
+            FurnitureCure x = Houses.withAll(1, 1, 1);
+            Houses.act(x, "A!B!C!D!E!F!");
+            x.image(0);
+            x.piece(piece, 1, 1, 1);
+            CHECK.due("sat in where " + piece + " comes anew", 63 & ~(1 << piece), x.told(4));
+            x.restore(0);
+            x.leave(piece);
+            CHECK.due("sat in where " + piece + " goes home", 63 & ~(1 << piece), x.told(4));
+            x.piece(piece, 1, 1, 1);
+            CHECK.due("sat in where " + piece + " comes back", 63 & ~(1 << piece), x.told(4));
+        }
     }
 
     /** Promise 3: "how many are there", from five to none. */

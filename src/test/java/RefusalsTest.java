@@ -157,11 +157,10 @@ public final class RefusalsTest {
 
     /** "An object is used for at most 512 calls after it has been made": the 512th is answered as the first. */
     private static void lastCallOfMany() {
-        FurnitureCure x = Houses.withTwo();
-        int calls = 5;
-        for (; calls < 511; calls++) {
-            CHECK.due("call " + (calls + 1), 60, x.piece(2, 20, 20, 20) == 3 ? 60 : 0);
+        FurnitureCure x = new FurnitureCure();
+        for (int call = 1; call < 512; call++) {
+            CHECK.due("call " + call, 1, x.piece(5, call % 21, 0, 0));
         }
-        CHECK.due("call 512", 7, x.told(1));
+        CHECK.due("call 512", 511 % 21, x.told(60));
     }
 }
