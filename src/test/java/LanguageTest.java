@@ -25,10 +25,12 @@ public final class LanguageTest {
         "long draughts(int,int,int,int,int)", "int week(int,int,int)", "int image(int)", "int restore(int)",
         "int told(int)"};
     private static final String[] CONSTANTS = {"NONE", "UNKNOWN", "OUTSIDE", "STATE", "FULL", "NO", "LOST"};
+    private static final int CONSTANT = Modifier.PUBLIC | Modifier.STATIC | Modifier.FINAL;
+    private static final int LONGEST_METHOD = 60;
     private static final String[] FORBIDDEN = {"\\bimport\\b", "\\bpackage\\b", "->", "::", "\\bsynchronized\\b",
         "\\bassert\\b", "\\bfinally\\b", "\\bcatch\\b", "\\btry\\b", "\\bthrows?\\b", "Exact\\b", "\\bdouble\\b",
         "\\bfloat\\b", "\\bSystem\\.(?!arraycopy)", "\\bThread\\b", "\\bObject\\b", "\\bequals\\b", "\\bhashCode\\b",
-        "\\bwhile *\\(true\\)", "for *\\(;;\\)", "\\bstatic *\\{"};
+        "\\bwhile *\\(true\\)", "for *\\(;;\\)", "\\bstatic *\\{", "\\bjava\\.", "\"", "\\[\\] *\\[\\] *\\["};
 
     public static void main(String[] args) throws IOException {
         constants();
@@ -66,6 +68,9 @@ public final class LanguageTest {
         for (Field f : c.getDeclaredFields()) {
             if (!Modifier.isPrivate(f.getModifiers())) {
                 fields.add(f.getName());
+                CHECK.holds(f + " is public, static and final", f.getModifiers() == CONSTANT);
+                Class<?> kind = f.getName().equals("LOST") ? long.class : int.class;
+                CHECK.holds(f + " is of its kind", f.getType() == kind);
             }
         }
         CHECK.holds("the document's constants and no other", fields.equals(new TreeSet<>(List.of(CONSTANTS))));
@@ -120,5 +125,25 @@ public final class LanguageTest {
             Matcher found = Pattern.compile(forbidden).matcher(code);
             CHECK.holds("no " + forbidden, !found.find());
         }
+        methodsAreShort(text);
+    }
+
+    /** By the indent: a method's first line ends with a brace, and its last one is a brace as deep as the first. */
+    private static void methodsAreShort(String text) {
+        String[] lines = text.split("\n");
+        int found = 0;
+        for (int i = 0; i < lines.length; i++) {
+            Matcher first = Pattern.compile("^( {4}| {8})(\\w+ )*[\\w\\[\\]]+ \\w+\\(.*").matcher(lines[i]);
+            if (!first.matches() || lines[i].contains("return") || lines[i].endsWith(";")) {
+                continue;
+            }
+            int last = i;
+            while (last < lines.length - 1 && !lines[last].equals(first.group(1) + "}")) {
+                last++;
+            }
+            found++;
+            CHECK.holds("short: " + lines[i].trim(), last - i < LONGEST_METHOD);
+        }
+        CHECK.holds("all methods were found: " + found, found > FACE.length + 40);
     }
 }
